@@ -561,20 +561,19 @@ public final class GuardCore {
             return result;
         }
 
-        /** And, or, exclusive or, and with flags. */
+        /** 0 and, 1 or, 2 exclusive or, 3 and with flags. */
         long logic(long left, long right, int kind, boolean wide) {
-            switch (kind) {
-                case 0:
-                    return Bits.narrow(left & right, wide);
-                case 1:
-                    return Bits.narrow(left | right, wide);
-                case 2:
-                    return Bits.narrow(left ^ right, wide);
-                default:
-                    long result = Bits.narrow(left & right, wide);
-                    state.putPart(State.FLAGS, signAndZero(result, wide));
-                    return result;
+            long result = left & right;
+            if (kind == 1) {
+                result = left | right;
+            } else if (kind == 2) {
+                result = left ^ right;
             }
+            result = Bits.narrow(result, wide);
+            if (kind == 3) {
+                state.putPart(State.FLAGS, signAndZero(result, wide));
+            }
+            return result;
         }
 
         private static long signAndZero(long result, boolean wide) {
@@ -638,8 +637,10 @@ public final class GuardCore {
             int turn = Bits.field(word, 16, 6) & size - 1;
             long run = Bits.ones(count + 1);
             long mask = (run >>> turn | run << size - turn) & Bits.ones(size);
-            for (int filled = size; filled < 64; filled *= 2) {
-                mask |= mask << filled;
+            for (int filled = 2; filled < 64; filled *= 2) {
+                if (filled >= size) {
+                    mask |= mask << filled;
+                }
             }
             return mask;
         }
@@ -847,10 +848,9 @@ public final class GuardCore {
         }
 
         private static long signedQuotient(long left, long right, boolean wide) {
-            if (right == 0) {
-                return 0;
-            }
-            return wide ? left / right : (long) (int) left / (int) right;
+            long number = wide ? left : (int) left;
+            long divisor = wide ? right : (int) right;
+            return divisor == 0 ? 0 : number / divisor;
         }
 
         boolean one(int word) {
@@ -929,7 +929,7 @@ public final class GuardCore {
                 state.raise(CROOKED_STACK, 0);
                 return true;
             }
-            int change = Bits.field(word, 24, 1) == 1 || Bits.isOne(word, 21) ? STAYS : Bits.field(word, 10, 2);
+            int change = change(word);
             long base = state.registerOrStack(n);
             long moved = base + offset(word);
             long address = change == BEHIND ? base : moved;
@@ -939,13 +939,14 @@ public final class GuardCore {
             if (place < 0) {
                 return true;
             }
-            long stored = state.register(t);
+            // the base changes in between: a store has it as it was, a load may write over it
+            if (kind == 0) {
+                memory.write(place, size, state.register(t));
+            }
             if (change != STAYS) {
                 state.putRegisterOrStack(n, moved);
             }
-            if (kind == 0) {
-                memory.write(place, size, stored);
-            } else {
+            if (kind != 0) {
                 state.putRegister(t, extended(memory.read(place, size), size, kind));
             }
             return true;
@@ -959,6 +960,10 @@ public final class GuardCore {
             int form = Bits.field(word, 10, 2);
             // of a register's bits only the middle one must be 1: 2, 3, 6, 7
             return Bits.isOne(word, 21) ? form == 2 && Bits.isOne(word, 14) : form != 2;
+        }
+
+        private static int change(int word) {
+            return Bits.isOne(word, 24) || Bits.isOne(word, 21) ? STAYS : Bits.field(word, 10, 2);
         }
 
         private long offset(int word) {
@@ -1009,20 +1014,17 @@ public final class GuardCore {
             if (upper < 0) {
                 return true;
             }
-            long first = state.register(Bits.field(word, 0, 5));
-            long second = state.register(Bits.field(word, 10, 5));
+            if (!load) {
+                memory.write(lower, size, state.register(Bits.field(word, 0, 5)));
+                memory.write(upper, size, state.register(Bits.field(word, 10, 5)));
+            }
             if (change == BEHIND || change == AHEAD) {
                 state.putRegisterOrStack(n, moved);
             }
             if (load) {
                 int kind = scale == 1 ? 2 : 1;
-                first = extended(memory.read(lower, size), size, kind);
-                second = extended(memory.read(upper, size), size, kind);
-                state.putRegister(Bits.field(word, 0, 5), first);
-                state.putRegister(Bits.field(word, 10, 5), second);
-            } else {
-                memory.write(lower, size, first);
-                memory.write(upper, size, second);
+                state.putRegister(Bits.field(word, 0, 5), extended(memory.read(lower, size), size, kind));
+                state.putRegister(Bits.field(word, 10, 5), extended(memory.read(upper, size), size, kind));
             }
             return true;
         }

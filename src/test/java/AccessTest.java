@@ -11,6 +11,7 @@ public final class AccessTest {
         indexed(check);
         pairs(check);
         pairBases(check);
+        atPlaceZero(check);
         near(check);
         crookedStacks(check);
         faults(check);
@@ -241,6 +242,43 @@ public final class AccessTest {
         check.same("ZERO is stored", Check.peekLong(zero, 8192) | Check.peekLong(zero, 8200), 0);
     }
 
+    private static void atPlaceZero(Check check) {
+        GuardCore load = Check.with(Check.word(Check.SCALED, 3, 1, 0, 1, 2));
+        Check.pokeLong(load, 0, PATTERN);
+        check.same("a load at 0", load.step(1), 0);
+        check.same("a load at 0", Check.part(load, 2), PATTERN);
+        GuardCore store = Check.with(Check.word(Check.SCALED, 3, 0, 0, 1, 2));
+        Check.put(store, 2, PATTERN);
+        check.same("a store at 0", store.step(1), 0);
+        check.same("a store at 0", Check.peekLong(store, 0), PATTERN);
+        GuardCore pair = Check.with(Check.word(Check.PAIR, 2, 2, 0, 0, 3, 1, 2));
+        Check.put(pair, 2, 5);
+        Check.put(pair, 3, 6);
+        check.same("a pair at 0", pair.step(1), 0);
+        check.same("lower", Check.peekLong(pair, 0), 5);
+        check.same("upper", Check.peekLong(pair, 8), 6);
+        GuardCore near = Check.with(Check.word(Check.NEAR, 1, -1024, 2));
+        Check.pokeLong(near, 0, PATTERN);
+        near.step(1);
+        check.same("near at 0", Check.part(near, 2), PATTERN);
+        GuardCore upper = mapped(Check.word(Check.PAIR, 2, 2, 1, -1, 3, 1, 2), 1);
+        Check.put(upper, 1, 0x4000);
+        Check.pokeLong(upper, 8224, 1 << 10 | 3);
+        Check.pokeLong(upper, 0x6FF8, 11);
+        Check.pokeLong(upper, 0, 22);
+        check.same("a pair whose upper place is 0", upper.step(1), 0);
+        check.same("lower", Check.part(upper, 2), 11);
+        check.same("upper", Check.part(upper, 3), 22);
+        GuardCore twice = mapped(Check.word(Check.PAIR, 0, 2, 0, -1, 3, 1, 2), 1);
+        Check.put(twice, 1, 0x4000);
+        Check.put(twice, 2, 5);
+        Check.put(twice, 3, 6);
+        Check.pokeLong(twice, 8224, 0x6000 | 1 << 10 | 3);
+        twice.step(1);
+        check.same("two pages of one frame, lower", twice.peek(0x6FFC), 5);
+        check.same("two pages of one frame, upper", twice.peek(0x6000), 6);
+    }
+
     private static void near(Check check) {
         for (int s = 0; s < 2; s++) {
             for (int i : new int[] {-1024, -2, 2, 1000, 15358}) {
@@ -251,6 +289,10 @@ public final class AccessTest {
                 check.same("PC", Check.part(core, Check.PC), 4100);
             }
         }
+        GuardCore odd = Check.with(Check.word(Check.NEAR, 0, 3, 3));
+        odd.poke(4108, 77);
+        odd.step(1);
+        check.same("a word at no multiple of 8", Check.part(odd, 3), 77);
         GuardCore crooked = Check.with(Check.word(Check.NEAR, 1, 1, 3));
         check.same("near at no multiple of 8", crooked.step(1), 1);
         check.same("ESR", Check.part(crooked, Check.ESR), Check.esr(37, 33));

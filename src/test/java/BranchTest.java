@@ -64,10 +64,11 @@ public final class BranchTest {
         for (int bit = 0; bit < 64; bit++) {
             for (int o = 0; o < 2; o++) {
                 for (int on = 0; on < 2; on++) {
-                    long i = on == 0 ? 8191 : -8192;
-                    GuardCore core = Check.with(Check.word(Check.BIT, bit >>> 5, o, bit & 31, i, 9));
-                    Check.put(core, 9, on == 1 ? 1L << bit : ~(1L << bit));
-                    goes(check, "bit " + bit + " " + o + " " + on, core, o == on ? 4096 + 4 * i : 4100);
+                    for (long i : new long[] {8191, -8192}) {
+                        GuardCore core = Check.with(Check.word(Check.BIT, bit >>> 5, o, bit & 31, i, 9));
+                        Check.put(core, 9, on == 1 ? 1L << bit : ~(1L << bit));
+                        goes(check, "bit " + bit + " " + o + " " + on, core, o == on ? 4096 + 4 * i : 4100);
+                    }
                 }
             }
         }
