@@ -391,6 +391,7 @@ public final class GuardCore {
                 }
                 table = entry & FRAME;
             }
+            // only for the compiler: at level 3 each entry has ended the walk above
             return -1 - (TRANSLATION + 3);
         }
 
