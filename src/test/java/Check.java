@@ -36,13 +36,37 @@ final class Check {
     static final String SET = "1101010100000 o3 0100 i4 u3 11111";
 
     private int wrong;
+    private String sentence = "";
+    private int asked = 1;
+
+    /** The document's words that the answers from here on are about. */
+    void sentence(String words) {
+        endSentence();
+        sentence = words;
+        asked = 0;
+    }
+
+    /** A sentence without a question would be held by any program. */
+    private void endSentence() {
+        if (asked == 0) {
+            wrong++;
+            System.out.println("\"" + sentence + "\": nothing was asked");
+        }
+    }
 
     void same(String call, long got, long due) {
+        asked++;
         if (got != due) {
             wrong++;
-            System.out.println(call + " answered " + got + " (" + Long.toHexString(got) + "), due is "
+            String about = sentence.isEmpty() ? "" : "\"" + sentence + "\": ";
+            System.out.println(about + call + " answered " + got + " (" + Long.toHexString(got) + "), due is "
                     + due + " (" + Long.toHexString(due) + ")");
         }
+    }
+
+    /** One instruction on a new object. */
+    One one(String form, long... fields) {
+        return new One(this, word(form, fields));
     }
 
     void isTrue(String call, boolean got) {
@@ -61,6 +85,7 @@ final class Check {
     }
 
     void end() {
+        endSentence();
         System.out.println(wrong == 0 ? "all answers are as due" : wrong + " answers are not as due");
         if (wrong != 0) {
             System.exit(1);
