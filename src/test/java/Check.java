@@ -35,6 +35,12 @@ final class Check {
     static final String SYSTEM = "1101010100 l 11 k14 t";
     static final String SET = "1101010100000 o3 0100 i4 u3 11111";
 
+    /** All forms of the document. */
+    static final String[] FORMS = {
+        NUMBER, SUM, LOGIC, MASKS, MOVE, PLACE, BITS, TWICE, CHOOSE, COMPARE, TIMES, HIGH, TWO, ONE, BRANCH, IF, ZERO,
+        BIT, TO, SCALED, SIGNED, INDEXED, PAIR, NEAR, SVC, BRK, HINT, BARRIER, BACK, SYSTEM, SET,
+    };
+
     private int wrong;
     private String sentence = "";
     private int asked = 1;
@@ -82,6 +88,10 @@ final class Check {
         for (int part = 0; part < due.length; part++) {
             same(call + " part " + part, part(core, part), due[part]);
         }
+    }
+
+    boolean isFine() {
+        return wrong == 0;
     }
 
     void end() {

@@ -2,12 +2,6 @@ import java.util.Random;
 
 /** Promise 8: which words are instructions and which are none, against the document's own forms. */
 public final class DecodeTest {
-    private static final String[] FORMS = {
-        Check.NUMBER, Check.SUM, Check.LOGIC, Check.MASKS, Check.MOVE, Check.PLACE, Check.BITS, Check.TWICE,
-        Check.CHOOSE, Check.COMPARE, Check.TIMES, Check.HIGH, Check.TWO, Check.ONE, Check.BRANCH, Check.IF,
-        Check.ZERO, Check.BIT, Check.TO, Check.SCALED, Check.SIGNED, Check.INDEXED, Check.PAIR, Check.NEAR,
-        Check.SVC, Check.BRK, Check.HINT, Check.BARRIER, Check.BACK, Check.SYSTEM, Check.SET,
-    };
     private static final int ROUNDS = 3000;
 
     public static void main(String[] args) {
@@ -15,11 +9,11 @@ public final class DecodeTest {
         Random random = new Random(7);
         for (int round = 0; round < ROUNDS; round++) {
             GuardCore core = new GuardCore();
-            for (String form : FORMS) {
+            for (String form : Check.FORMS) {
                 tell(check, core, anyOf(form, random), round & 1);
             }
             core = new GuardCore();
-            for (String form : FORMS) {
+            for (String form : Check.FORMS) {
                 tell(check, core, anyOf(form, random) ^ 1 << random.nextInt(32), round & 1);
             }
             core = new GuardCore();
@@ -28,7 +22,7 @@ public final class DecodeTest {
             }
         }
         check.sentence("Bits that are written as 0 or 1 must be so.");
-        for (String form : FORMS) {
+        for (String form : Check.FORMS) {
             for (int round = 0; round < 20; round++) {
                 GuardCore core = new GuardCore();
                 int word = anyOf(form, random);
@@ -69,7 +63,7 @@ public final class DecodeTest {
     }
 
     private static boolean isKnown(int word, int level) {
-        for (String form : FORMS) {
+        for (String form : Check.FORMS) {
             long[] fields = fields(form, word);
             if (fields != null && allows(form, fields, level)) {
                 return true;
